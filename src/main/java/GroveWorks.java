@@ -750,6 +750,27 @@ public final class GroveWorks {
             return from != 0 && from <= net.time && isJoined(g, STAR);
         }
 
+        boolean isShared(int g, int s) {
+            return isJoined(g, STAR) && !isCutOff(g, s);
+        }
+
+        boolean isLost(int g, int s, int ownClaim) {
+            int other = keptClaim(g, s);
+            return other != NONE && isBetter(other, ownClaim);
+        }
+
+        /** Whether anything is held of a tree that may count now or later. */
+        boolean holds(int g, int x) {
+            if (isJoined(g, x)) {
+                return true;
+            }
+            if (x == STAR) {
+                return hasMembers(g);
+            }
+            int i = g * HOSTS + x;
+            return claimTill[i] > net.time || (cutFrom[i] != 0 && isJoined(g, STAR));
+        }
+
         void takeJoin(int g, int x) {
             if (x == STAR && !isJoined(g, x)) {
                 takeCuts(g, 0);
@@ -889,9 +910,10 @@ public final class GroveWorks {
             }
             for (int g = 0; g < GROUPS; g++) {
                 trees[g].renewJoin(STAR);
-                for (int s = 0; s < HOSTS; s++) {
+                for (int s = 0; s < HOSTS && trees[g].known != 0; s++) {
                     trees[g].renewJoin(s);
                 }
+                trees[g].dropKnown();
             }
             for (int g = 0; g < GROUPS; g++) {
                 trees[g].probe();
@@ -925,7 +947,7 @@ public final class GroveWorks {
         final int router;
         final int group;
         final Port[] ports;
-        // Trees of which anything was ever heard: for all others there is nothing to do.
+        // Trees of which anything is held: for all others the timers have nothing to do.
         int known = 0;
         // The port and the router by which it has joined, as a pair.
         final int[] joinedBy = new int[TREES];
@@ -971,41 +993,19 @@ public final class GroveWorks {
             return net.ways.isDirect(router, net.targetOf(s));
         }
 
-        private int ownPorts() {
-            int bits = 0;
+        private boolean hasOwnPort() {
             for (int p = 0; p < PORTS; p++) {
                 if (ports[p] != null && ports[p].isOwn(group)) {
-                    bits |= 1 << p;
+                    return true;
                 }
             }
-            return bits;
+            return false;
         }
 
-        private int joinedPorts(int x) {
+        private int base() {
             int bits = 0;
             for (int p = 0; p < PORTS; p++) {
-                if (ports[p] != null && ports[p].isJoined(group, x)) {
-                    bits |= 1 << p;
-                }
-            }
-            return bits;
-        }
-
-        private int cutOffPorts(int s) {
-            int bits = 0;
-            for (int p = 0; p < PORTS; p++) {
-                if (ports[p] != null && ports[p].isCutOff(group, s)) {
-                    bits |= 1 << p;
-                }
-            }
-            return bits;
-        }
-
-        private int lostPorts(int s) {
-            int bits = 0;
-            for (int p = 0; p < PORTS; p++) {
-                int other = ports[p] == null ? NONE : ports[p].keptClaim(group, s);
-                if (other != NONE && isBetter(other, claim)) {
+                if (ports[p] != null && (ports[p].isJoined(group, STAR) || ports[p].isOwn(group))) {
                     bits |= 1 << p;
                 }
             }
@@ -1022,15 +1022,27 @@ public final class GroveWorks {
         /** Finds what holds for a source at this moment; what was found before may be stale. */
         private void look(int s) {
             claim = ownClaim(s);
-            lost = lostPorts(s);
-            shared = ((joinedPorts(STAR) & ~cutOffPorts(s)) | ownPorts()) & ~lost;
-            int joined = joinedPorts(s) & ~lost;
+            lost = 0;
+            shared = 0;
+            int joined = 0;
+            for (int p = 0; p < PORTS; p++) {
+                Port port = ports[p];
+                if (port == null) {
+                    continue;
+                }
+                if (port.isLost(group, s, claim)) {
+                    lost |= 1 << p;
+                    continue;
+                }
+                if (port.isJoined(group, s)) {
+                    joined |= 1 << p;
+                }
+                if (port.isOwn(group) || port.isShared(group, s)) {
+                    shared |= 1 << p;
+                }
+            }
             all = shared | joined;
             isWanted = joined != 0 || (keptTill[s] > net.time && all != 0);
-        }
-
-        private int base() {
-            return joinedPorts(STAR) | ownPorts();
         }
 
         private boolean wants(int x) {
@@ -1086,7 +1098,7 @@ public final class GroveWorks {
         }
 
         void checkStraight() {
-            for (int s = 0; s < HOSTS; s++) {
+            for (int s = 0; s < HOSTS && known != 0; s++) {
                 if (!isStraight(s)) {
                     continue;
                 }
@@ -1117,6 +1129,26 @@ public final class GroveWorks {
             }
         }
 
+        void dropKnown() {
+            for (int x = 0; x < TREES && known != 0; x++) {
+                if (has(known, x) && !holds(x)) {
+                    known &= ~(1 << x);
+                }
+            }
+        }
+
+        private boolean holds(int x) {
+            if (joinedBy[x] != NONE || (x != STAR && (isStraight(x) || keptTill[x] > net.time))) {
+                return true;
+            }
+            for (int p = 0; p < PORTS; p++) {
+                if (ports[p] != null && ports[p].holds(group, x)) {
+                    return true;
+                }
+            }
+            return false;
+        }
+
         private void sendJoin(int x, int cutOff) {
             joinAt[x] = net.time;
             if (x == STAR) {
@@ -1142,7 +1174,7 @@ public final class GroveWorks {
 
         /** Shortly ahead of a stop's end the meeting point is asked whether it still wants no tunnels. */
         void probe() {
-            for (int s = 0; s < HOSTS; s++) {
+            for (int s = 0; s < HOSTS && known != 0; s++) {
                 boolean isDue = stoppedTill[s] == net.time + PROBE_AHEAD && keptTill[s] > net.time;
                 if (isDue && mayTunnel(s)) {
                     startTunnel(s, 0, 0);
@@ -1233,7 +1265,7 @@ public final class GroveWorks {
                 return all;
             }
             if (!isStraight(s) && portToMeeting() == p) {
-                if (ownPorts() != 0) {
+                if (hasOwnPort()) {
                     keptTill[s] = net.time + KEPT_FOR;
                 }
                 return shared;
