@@ -173,18 +173,25 @@ public final class ModelRuns {
                     check(real.got(h, n), plain.got(h, n), "got", h, n);
                 }
             }
+            // Ways come last: what rests on them must not need to be asked for them.
             for (int r = -1; r < size + 1; r++) {
                 compareRouter(r);
             }
+            for (int r = -1; r < size + 1; r++) {
+                compareWays(r);
+            }
         }
 
-        void compareRouter(int r) {
+        void compareWays(int r) {
             for (int what = -1; what < 4; what++) {
                 for (int t = -1; t < 17; t++) {
                     check(real.way(r, true, t, what), plain.way(r, true, t, what), "way over", r, t, what);
                     check(real.way(r, false, t, what), plain.way(r, false, t, what), "way", r, t, what);
                 }
             }
+        }
+
+        void compareRouter(int r) {
             for (int p = -1; p < 5; p++) {
                 for (int what = -1; what < 6; what++) {
                     check(real.port(r, p, what), plain.port(r, p, what), "port", r, p, what);

@@ -32,10 +32,16 @@ public final class Promises {
         straightWays();
         straightEnds();
         claims();
+        claimsWithoutDistance();
+        claimsAndCutOffs();
+        claimsAndStraightWays();
+        claimsAndMendedWires();
         prunesAndObjections();
         cutOffsWait();
         stops();
+        edgesOfStops();
         lifeOfData();
+        lifeOfTunnels();
         counts();
         wrongQuestions();
         System.out.println(wrong == 0 ? "all promises hold" : wrong + " answers are not as due");
@@ -571,6 +577,8 @@ public final class Promises {
     }
 
     private static void waysOverCutWires() {
+        due("none without wires", new GroveWorks(2).way(0, false, 1, 0), NONE);
+        due("no port without wires", new GroveWorks(2).way(0, false, 1, 1), NONE);
         GroveWorks x = triangle();
         due("two is one away", x.way(0, false, 2, 0), 1);
         due("wire 4 by port 0", x.way(0, true, 4, 1), 0);
@@ -877,6 +885,135 @@ public final class Promises {
         due("no claim kept", y.branch(0, 0, 0, 0, 3), NONE);
     }
 
+    /** At time 1 no router knows another: both have their own port on wire 0, and router 2 is nowhere. */
+    private static void claimsWithoutDistance() {
+        GroveWorks x = new GroveWorks(3);
+        x.plug(0, 0, 0, 1);
+        x.plug(1, 0, 0, 1);
+        x.plug(0, 1, 1, 1);
+        x.host(0, 1);
+        x.host(1, 0);
+        x.meet(0, 2);
+        x.join(1, 0);
+        x.send(0, 0);
+        x.tick(1);
+        due("straight", x.tree(0, 0, 0, 5), 1);
+        due("no tunnel without a way", x.count(5), 0);
+        x.tick(1);
+        dueFrame("a claim without a distance", x, 0, 0, 8, 1, NONE, 0, 0, 1999901, 0, 0);
+        due("no join without a way", x.tree(1, 0, NONE, 1), NONE);
+        due("but it is wanted", x.tree(1, 0, NONE, 0), 1);
+        x.tick(1);
+        due("router 1 has not lost", x.branch(1, 0, 0, 0, 2), 0);
+        due("router 0 is first no more", x.port(0, 0, 3), 0);
+        due("so it does not answer", x.count(6), 1);
+        due("router 0 keeps it", x.branch(0, 0, 0, 0, 3), 1);
+        x.cut(0);
+        due("till the wire is cut", x.branch(0, 0, 0, 0, 3), NONE);
+    }
+
+    private static void claimsAndCutOffs() {
+        GroveWorks x = twoToOne(1);
+        x.send(0, 0);
+        x.tick(3);
+        due("router 0 would join router 1", x.frame(1, 2, 0), 5);
+        x.lose(1, 2);
+        x.tick(1);
+        due("lost", x.branch(1, 1, 0, 0, 2), 1);
+        due("not joined for the source", x.branch(1, 1, 0, 0, 0), 0);
+        due("nothing is left: to be cut off", x.tree(1, 0, NONE, 4), 1);
+        x.tick(50);
+        x.tick(7);
+        due("the claim came again at 11", x.branch(1, 1, 0, 0, 2), 1);
+        due("time", x.count(0), 67);
+        x.tick(3);
+        due("at 70", x.branch(1, 1, 0, 0, 3), 2);
+        x.tick(1);
+        due("at 71", x.branch(1, 1, 0, 0, 3), NONE);
+        due("router 0 has cut it off, too", x.tree(1, 0, NONE, 4), 1);
+        x.tick(1);
+        due("at 72 no more", x.tree(1, 0, NONE, 4), 0);
+    }
+
+    /** Router 1 has lost wire 1, but as it gets straight it has the better claim at once. */
+    private static void claimsAndStraightWays() {
+        GroveWorks x = new GroveWorks(4);
+        x.plug(3, 0, 0, 1);
+        x.plug(3, 1, 3, 1);
+        x.plug(1, 0, 0, 1);
+        x.plug(1, 1, 1, 1);
+        x.plug(1, 2, 4, 1);
+        x.plug(2, 0, 0, 1);
+        x.plug(2, 1, 1, 1);
+        x.plug(0, 0, 1, 1);
+        x.plug(0, 1, 2, 1);
+        x.host(0, 3);
+        x.host(1, 1);
+        x.host(2, 2);
+        x.host(3, 4);
+        x.meet(0, 3);
+        x.tick(2);
+        x.join(1, 0);
+        x.join(2, 0);
+        x.join(3, 0);
+        x.tick(4);
+        x.send(0, 0);
+        x.tick(4);
+        dueFrame("router 0 got it twice, is straight and cuts it off", x, 1, 1, 5, 0, 1, 0, NONE, 0, 1, 0);
+        x.lose(1, 1);
+        x.tick(2);
+        due("lost", x.branch(1, 1, 0, 0, 2), 1);
+        due("not straight", x.tree(1, 0, 0, 5), 0);
+        due("joined the source", x.tree(1, 0, 0, 1), 3);
+        due("all but the lost one", x.tree(1, 0, 0, 3), 4);
+        x.send(0, 0);
+        x.tick(2);
+        due("straight", x.tree(1, 0, 0, 5), 1);
+        due("not lost", x.branch(1, 1, 0, 0, 2), 0);
+        due("both bring it", framesOf(x, 1, 7), 2);
+        x.tick(1);
+        due("claims of straight ones", x.frame(1, 0, 5), 102);
+        due("claims of straight ones", x.frame(1, 1, 5), 101);
+        x.tick(1);
+        due("lost again", x.branch(1, 1, 0, 0, 2), 1);
+    }
+
+    /** A claim is measured against the distance at that moment, also where no tick has gone by. */
+    private static void claimsAndMendedWires() {
+        GroveWorks x = new GroveWorks(4);
+        x.plug(3, 0, 0, 1);
+        x.plug(3, 1, 3, 1);
+        x.plug(3, 2, 5, 1);
+        x.plug(1, 0, 0, 1);
+        x.plug(1, 1, 1, 1);
+        x.plug(2, 0, 0, 2);
+        x.plug(2, 1, 1, 1);
+        x.plug(2, 2, 5, 1);
+        x.plug(0, 0, 1, 1);
+        x.plug(0, 1, 2, 1);
+        x.host(0, 3);
+        x.host(1, 1);
+        x.host(2, 2);
+        x.meet(0, 3);
+        x.cut(5);
+        x.tick(2);
+        x.join(1, 0);
+        x.join(2, 0);
+        x.tick(4);
+        x.send(0, 0);
+        x.tick(4);
+        due("the nearer one wins", x.branch(2, 1, 0, 0, 2), 1);
+        due("not shared", x.tree(2, 0, 0, 4), 0);
+        x.mend(5);
+        due("as near, and greater", x.branch(2, 1, 0, 0, 2), 0);
+        x.cut(5);
+        due("farther again", x.branch(2, 1, 0, 0, 2), 1);
+        x.mend(5);
+        due("shared", x.tree(2, 0, 0, 4), 2);
+        x.cut(5);
+        due("not shared again", x.tree(2, 0, 0, 4), 0);
+    }
+
     private static void prunesAndObjections() {
         GroveWorks x = fork();
         x.tick(2);
@@ -980,6 +1117,63 @@ public final class Promises {
         x.send(0, 0);
         x.tick(1);
         due("a tunnel again", x.count(5), 3);
+    }
+
+    private static void edgesOfStops() {
+        for (int late = 0; late < 2; late++) {
+            GroveWorks x = line(1);
+            x.tick(2);
+            x.send(0, 0);
+            x.tick(4 + late);
+            x.send(0, 0);
+            x.tick(1);
+            due("kept", x.tree(0, 0, 0, 6), 77 + late);
+            x.tick(50);
+            x.tick(20 - late);
+            due("at 77", x.count(0), 77);
+            due("a second probe only while it is kept", x.count(5), 2 + late);
+        }
+        for (int late = 0; late < 2; late++) {
+            GroveWorks x = line(1);
+            x.tick(2);
+            x.send(0, 0);
+            x.tick(38);
+            due("the probe", x.frame(0, 0, 0), 9);
+            x.lose(0, 0);
+            x.tick(3 + late);
+            due("still stopped", x.tree(0, 0, 0, 7), 45);
+            x.send(0, 0);
+            x.tick(1);
+            due("time", x.count(0), 44 + late);
+            due("a tunnel at 45, not at 44", x.count(5), 2 + late);
+        }
+    }
+
+    /** The way to router 2 turns round at every tick, so that a tunnel goes to and fro on wire 0. */
+    private static void lifeOfTunnels() {
+        GroveWorks x = new GroveWorks(3);
+        x.plug(0, 0, 0, 1);
+        x.plug(1, 0, 0, 1);
+        x.plug(0, 1, 1, 1);
+        x.plug(2, 0, 1, 1);
+        x.plug(1, 1, 2, 1);
+        x.plug(2, 1, 2, 1);
+        x.plug(0, 2, 3, 1);
+        x.host(0, 3);
+        x.meet(0, 2);
+        x.tick(2);
+        x.cut(1);
+        x.send(0, 0);
+        x.tick(1);
+        for (int life = 16; life > 0; life--) {
+            int by = life % 2;
+            dueFrame("to and fro", x, 0, 0, 9, by, 1 - by, 0, 0, 0, 256, life);
+            x.mend(1 + by);
+            x.cut(2 - by);
+            x.tick(1);
+        }
+        due("its life is over", framesOf(x, 0, 9), 0);
+        due("one tunnel", x.count(5), 1);
     }
 
     private static void lifeOfData() {
