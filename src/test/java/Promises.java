@@ -44,6 +44,7 @@ public final class Promises {
         lifeOfTunnels();
         counts();
         wrongQuestions();
+        extremes();
         System.out.println(wrong == 0 ? "all promises hold" : wrong + " answers are not as due");
         if (wrong != 0) {
             System.exit(1);
@@ -1254,5 +1255,41 @@ public final class Promises {
         due("nor straight", x.tree(0, 0, 15, 5), 0);
         due("nor joined", x.tree(0, 0, 15, 1), NONE);
         due("no bits of *", x.tree(0, 0, -1, 4), 0);
+    }
+
+    /** Whatever is asked, nothing is thrown, and what is refused changes nothing. */
+    private static void extremes() {
+        GroveWorks x = line(1);
+        x.tick(2);
+        x.join(1, 0);
+        x.send(0, 0);
+        x.tick(3);
+        int sent = x.count(2);
+        int[] odd = {Integer.MIN_VALUE, -17, -2, 16, 17, 31, 32, 64, 400, Integer.MAX_VALUE};
+        for (int a : odd) {
+            for (int b : odd) {
+                due("plug", x.plug(a, b, 0, 1), false);
+                due("host", x.host(a, b), false);
+                due("meet", x.meet(a, b), false);
+                due("cut", x.cut(a), false);
+                due("mend", x.mend(a), false);
+                due("join", x.join(a, b) || x.join(1, a) || x.join(a, 0), false);
+                due("leave", x.leave(a, b) || x.leave(1, a) || x.leave(a, 0), false);
+                due("send", Math.max(x.send(a, b), Math.max(x.send(0, a), x.send(a, 0))), NONE);
+                due("lose", x.lose(a, b) || x.lose(0, 100 + (a & 7)), false);
+                due("got", Math.max(x.got(a, b), Math.max(x.got(1, a), x.got(a, 0))), NONE);
+                due("frame", Math.max(x.frame(a, b, 0), Math.max(x.frame(0, a, 0), x.frame(0, 0, a))), -2);
+                due("way", Math.max(x.way(a, true, 0, 0), Math.max(x.way(0, true, a, 0), x.way(0, false, a, b))), NONE);
+                due("port", Math.max(x.port(a, 0, 0), Math.max(x.port(0, a, 0), x.port(0, 0, a))), NONE);
+                due("members", Math.max(x.members(a, 0, 0), Math.max(x.members(0, a, 0), x.members(0, 0, a))), NONE);
+                due("branch", Math.max(x.branch(0, 0, 0, a, 0), x.branch(0, 0, b, 0, 0)), NONE);
+                due("tree", Math.max(x.tree(0, 0, a, 0), x.tree(0, b, 0, 0)), NONE);
+                due("count", x.count(a), NONE);
+            }
+        }
+        due("tick", Math.max(x.tick(Integer.MIN_VALUE), x.tick(Integer.MAX_VALUE)), NONE);
+        due("nothing was sent", x.count(2), sent);
+        due("no number was given", x.count(1), 1);
+        due("time", x.count(0), 5);
     }
 }
