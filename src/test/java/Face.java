@@ -1,17 +1,12 @@
-import java.io.IOException;
 import java.lang.reflect.Constructor;
 import java.lang.reflect.Field;
 import java.lang.reflect.Method;
 import java.lang.reflect.Modifier;
-import java.nio.file.Files;
-import java.nio.file.Path;
 import java.util.Arrays;
 import java.util.Set;
 import java.util.TreeSet;
-import java.util.regex.Matcher;
-import java.util.regex.Pattern;
 
-/** The class shows the document's face and nothing else, and its text keeps to ../shared/LANGUAGE.md. */
+/** The compiled class shows the document's face and nothing else; Language looks at its text. */
 public final class Face {
     private static int wrong = 0;
 
@@ -23,9 +18,8 @@ public final class Face {
         "int branch(int, int, int, int, int)", "int tree(int, int, int, int)", "int count(int)",
     };
 
-    public static void main(String[] args) throws IOException {
+    public static void main(String[] args) {
         members();
-        text(Files.readString(Path.of("src/main/java/GroveWorks.java")));
         System.out.println(wrong == 0 ? "the face is as due" : wrong + " faults");
         if (wrong != 0) {
             System.exit(1);
@@ -74,36 +68,6 @@ public final class Face {
         for (Class<?> one : inside) {
             fault(!Modifier.isStatic(one.getModifiers()), "not static: " + one);
             fault(one.getDeclaredFields().length > 20, "more than twenty fields: " + one);
-        }
-    }
-
-    private static void text(String text) {
-        String bare = text.replaceAll("(?s)/\\*.*?\\*/", "").replaceAll("//[^\n]*", "");
-        String[] words = {"throw", "throws", "try", "catch", "finally", "synchronized", "assert", "hashCode", "toString",
-            "equals", "package", "protected", "double", "float", "Thread", "System", "Random"};
-        for (String word : words) {
-            fault(Pattern.compile("\\b" + word + "\\b").matcher(bare).find(), "the word " + word);
-        }
-        fault(bare.contains("->") || bare.contains("::"), "a lambda or a method reference");
-        fault(!bare.contains("import java.util.Arrays;"), "the import");
-        fault(bare.indexOf("import ") != bare.lastIndexOf("import "), "more than one import");
-        Matcher wide = Pattern.compile("[^\\x00-\\xff]").matcher(text);
-        fault(wide.find(), "a character above 255");
-        methodsAreShort(bare);
-    }
-
-    private static void methodsAreShort(String bare) {
-        String[] lines = bare.split("\n");
-        for (int i = 0; i < lines.length; i++) {
-            Matcher start = Pattern.compile("^( +)[\\w\\[\\] ]+\\([^;]*\\) \\{$").matcher(lines[i]);
-            if (!start.find() || lines[i].trim().matches("(if|for|while|switch|else).*")) {
-                continue;
-            }
-            int end = i;
-            while (end < lines.length && !lines[end].equals(start.group(1) + "}")) {
-                end++;
-            }
-            fault(end - i > 60, "longer than sixty lines: " + lines[i].trim());
         }
     }
 }

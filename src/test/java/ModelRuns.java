@@ -1,5 +1,6 @@
 import java.util.ArrayList;
 import java.util.Arrays;
+import java.util.Collections;
 import java.util.HashMap;
 import java.util.List;
 import java.util.Map;
@@ -44,9 +45,9 @@ public final class ModelRuns {
         final Random random;
         final StringBuilder log = new StringBuilder();
         final int size;
-        final int wires;
-        final int hosts;
-        final int groups;
+        final int[] wires;
+        final int[] hosts;
+        final int[] groups;
         final GroveWorks real;
         final Plain plain;
 
@@ -54,28 +55,41 @@ public final class ModelRuns {
             this.seed = seed;
             random = new Random(seed);
             size = 1 + random.nextInt(10);
-            wires = 1 + random.nextInt(Math.min(16, size + 2));
-            hosts = 1 + random.nextInt(6);
-            groups = 1 + random.nextInt(3);
+            wires = some(1 + random.nextInt(Math.min(16, size + 2)), 16);
+            hosts = some(1 + random.nextInt(6), 16);
+            groups = some(1 + random.nextInt(3), 8);
             real = new GroveWorks(size);
             plain = new Plain(size);
         }
 
+        /** So many different numbers below a bound, by chance. */
+        int[] some(int n, int bound) {
+            List<Integer> all = new ArrayList<>();
+            for (int i = 0; i < bound; i++) {
+                all.add(i);
+            }
+            Collections.shuffle(all, random);
+            return all.subList(0, n).stream().mapToInt(Integer::intValue).toArray();
+        }
+
+        int oneOf(int[] numbers) {
+            return numbers[random.nextInt(numbers.length)];
+        }
+
         void play() {
             for (int r = 0; r < size; r++) {
-                int ports = 1 + random.nextInt(4);
-                for (int p = 0; p < ports; p++) {
-                    int wire = random.nextInt(wires);
+                for (int p : some(1 + random.nextInt(4), 4)) {
+                    int wire = oneOf(wires);
                     int cost = random.nextInt(4) == 0 ? random.nextInt(11) : 1 + random.nextInt(2);
                     same("plug " + r + " " + p + " " + wire + " " + cost,
                             real.plug(r, p, wire, cost), plain.plug(r, p, wire, cost));
                 }
             }
-            for (int h = 0; h < hosts; h++) {
-                int wire = random.nextInt(wires);
+            for (int h : hosts) {
+                int wire = oneOf(wires);
                 same("host " + h + " " + wire, real.host(h, wire), plain.host(h, wire));
             }
-            for (int g = 0; g < groups; g++) {
+            for (int g : groups) {
                 int r = random.nextInt(size);
                 same("meet " + g + " " + r, real.meet(g, r), plain.meet(g, r));
             }
@@ -94,14 +108,14 @@ public final class ModelRuns {
         }
 
         void call(int dice, int cuts) {
-            int h = random.nextInt(hosts);
-            int g = random.nextInt(groups);
-            int wire = random.nextInt(wires);
+            int h = oneOf(hosts);
+            int g = oneOf(groups);
+            int wire = oneOf(wires);
             if (dice < 40) {
                 int n = 1 + random.nextInt(random.nextInt(8) == 0 ? 25 : 4);
                 same("tick " + n, real.tick(n), plain.tick(n));
             } else if (dice < 60) {
-                int s = random.nextInt(2) == 0 ? 0 : h;
+                int s = random.nextInt(2) == 0 ? hosts[0] : h;
                 int sent = random.nextInt(30) == 0 ? 45 : 1;
                 for (int k = 0; k < sent; k++) {
                     same("send " + s + " " + g, real.send(s, g), plain.send(s, g));
@@ -123,7 +137,8 @@ public final class ModelRuns {
         /** Loses every hello of one router till it is nobody's neighbour, then lets it speak again. */
         void silence(int mute) {
             for (int i = 0; i < 90 && wrong == 0; i++) {
-                for (int w = 0; w < wires && i < 75; w++) {
+                for (int at = 0; at < wires.length && i < 75; at++) {
+                    int w = wires[at];
                     for (int k = plain.under.get(w).size() - 1; k >= 0; k--) {
                         if (plain.frame(w, k, 0) == 1 && plain.frame(w, k, 1) == mute) {
                             same("lose " + w + " " + k, real.lose(w, k), plain.lose(w, k));
@@ -163,7 +178,8 @@ public final class ModelRuns {
             }
             for (int w = -1; w < 17; w++) {
                 for (int i = -1; i < 42; i++) {
-                    for (int what = -1; what < 9; what++) {
+                    boolean isThere = plain.frame(w, i, 0) != -2;
+                    for (int what = isThere ? -1 : 0; what < (isThere ? 9 : 1); what++) {
                         check(real.frame(w, i, what), plain.frame(w, i, what), "frame", w, i, what);
                     }
                 }
@@ -191,14 +207,26 @@ public final class ModelRuns {
             }
         }
 
+        /** The numbers that are in use, some that are not, and those at their bounds. */
+        int[] alsoOthers(int[] numbers, int bound) {
+            int[] more = Arrays.copyOf(numbers, numbers.length + 4);
+            more[numbers.length] = -2;
+            more[numbers.length + 1] = -1;
+            more[numbers.length + 2] = bound;
+            more[numbers.length + 3] = random.nextInt(bound);
+            return more;
+        }
+
         void compareRouter(int r) {
+            int[] someGroups = alsoOthers(groups, 8);
+            int[] someSources = alsoOthers(hosts, 16);
             for (int p = -1; p < 5; p++) {
                 for (int what = -1; what < 6; what++) {
                     check(real.port(r, p, what), plain.port(r, p, what), "port", r, p, what);
                 }
-                for (int g = -1; g < groups + 1; g++) {
+                for (int g : someGroups) {
                     check(real.members(r, p, g), plain.members(r, p, g), "members", r, p, g);
-                    for (int s = -2; s < hosts + 1; s++) {
+                    for (int s : someSources) {
                         for (int what = -1; what < 5; what++) {
                             check(real.branch(r, p, g, s, what), plain.branch(r, p, g, s, what),
                                     "branch", r, p, g, s, what);
@@ -206,8 +234,8 @@ public final class ModelRuns {
                     }
                 }
             }
-            for (int g = -1; g < groups + 1; g++) {
-                for (int s = -2; s < hosts + 1; s++) {
+            for (int g : someGroups) {
+                for (int s : someSources) {
                     for (int what = -1; what < 9; what++) {
                         check(real.tree(r, g, s, what), plain.tree(r, g, s, what), "tree", r, g, s, what);
                     }
