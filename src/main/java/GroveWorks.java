@@ -857,7 +857,7 @@ public final class GroveWorks {
             if (frame.kind == HELLO) {
                 ports[p].takeHello(frame.sender);
             }
-            if (!isIn(frame.group, GROUPS) || (frame.kind >= DATA && !isIn(frame.source, HOSTS))) {
+            if (!isIn(frame.group, GROUPS) || !isSource(frame.source) || (frame.kind >= DATA && frame.source == NONE)) {
                 return;
             }
             Tree tree = trees[frame.group];

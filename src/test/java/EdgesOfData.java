@@ -103,6 +103,20 @@ public final class EdgesOfData {
         check.due("and goes on", Nets.framesOf(x, 1, Nets.DATA), 1);
         x.tick(1);
         check.due("it came to router 2, which has one", x.tree(2, 0, 0, 6), 78);
+        for (int own = 0; own < 4; own++) {
+            int up = (own + 1) % 4;
+            GroveWorks y = Nets.hosts(Nets.net(2, new int[][] {{0, 3, 0}, {0, 2, 1}, {1, up, 0}, {1, own, 2}}), 1, 2);
+            y.join(1, 0);
+            y.tick(5);
+            y.send(0, 0);
+            y.tick(2);
+            check.due("kept for an own port " + own, y.tree(1, 0, 0, 6), 77);
+            check.due("shared", y.tree(1, 0, 0, 4), 1 << own);
+            y.tick(50);
+            y.tick(20);
+            check.due("not kept at 77", y.tree(1, 0, 0, 6), 0);
+            check.due("not joined at 77", y.tree(1, 0, 0, 1), NONE);
+        }
     }
 
     private static void gettingStraight() {

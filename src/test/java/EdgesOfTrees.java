@@ -585,6 +585,7 @@ public final class EdgesOfTrees {
         joinEveryTwenty();
         joinForNewCuts();
         cutsOfAnEmptyShared();
+        cutsOfALostShared();
         nothingIsToldWithoutAJoin();
         pruneThenJoin();
     }
@@ -626,28 +627,50 @@ public final class EdgesOfTrees {
     /** 0 -w0- 3 -w5- 2, and 2 -w1- 1 -w2- 0: what router 2 cuts off is all that router 3 has. */
     private static void cutsOfAnEmptyShared() {
         check.says("or SHARED of (s, g) is empty");
-        GroveWorks x = Nets.net(4, new int[][] {
-            {0, 0, 0}, {3, 0, 0}, {3, 1, 5}, {2, 0, 5}, {2, 1, 1}, {1, 0, 1}, {1, 1, 2}, {0, 1, 2}, {1, 2, 3}, {2, 2, 4},
-        });
-        Nets.hosts(x, 3, 4);
-        x.tick(2);
-        x.join(1, 0);
-        x.tick(3);
-        check.due("joined by way of router 3", x.branch(0, 0, 0, NONE, 0), 75);
+        for (int up = 0; up < 2; up++) {
+            GroveWorks x = Nets.net(4, new int[][] {
+                {0, 0, 0}, {3, up, 0}, {3, 1 - up, 5}, {2, 0, 5}, {2, 1, 1}, {1, 0, 1}, {1, 1, 2}, {0, 1, 2}, {1, 2, 3},
+                {2, 2, 4},
+            });
+            Nets.hosts(x, 3, 4);
+            x.tick(2);
+            x.join(1, 0);
+            x.tick(3);
+            check.due("joined by way of router 3", x.branch(0, 0, 0, NONE, 0), 75);
+            x.send(0, 0);
+            x.tick(5);
+            x.send(0, 0);
+            x.tick(2);
+            check.due("router 2 is straight", x.tree(2, 0, 0, 5), 1);
+            check.due("router 2 tells", x.tree(2, 0, NONE, 4), 1);
+            check.due("router 3 does not yet", x.tree(3, 0, NONE, 4), 0);
+            x.tick(1);
+            check.due("shared of router 3", x.tree(3, 0, 0, 4), 0);
+            check.due("base of router 3", x.tree(3, 0, NONE, 3), 2 >> up);
+            check.due("router 3 is not straight", x.tree(3, 0, 0, 5), 0);
+            check.due("router 3 tells, too", x.tree(3, 0, NONE, 4), 1);
+            x.tick(1);
+            check.due("cut off at the meeting point", x.branch(0, 0, 0, 0, 1), 1);
+            x.tick(10);
+            check.due("router 3 still tells", x.tree(3, 0, NONE, 4), 1);
+            check.due("cut off still", x.branch(0, 0, 0, 0, 1), 1);
+        }
+    }
+
+    /** Router 1 has lost wire 1, all that it has. Router 0 would cut the source off there, too, but its joins go. */
+    private static void cutsOfALostShared() {
+        check.says("TO CUT OFF of g are all s with");
+        GroveWorks x = Nets.twoToOne(1);
         x.send(0, 0);
-        x.tick(5);
-        x.send(0, 0);
-        x.tick(2);
-        check.due("router 2 is straight", x.tree(2, 0, 0, 5), 1);
-        check.due("router 2 tells", x.tree(2, 0, NONE, 4), 1);
-        check.due("router 3 does not yet", x.tree(3, 0, NONE, 4), 0);
-        x.tick(1);
-        check.due("shared of router 3", x.tree(3, 0, 0, 4), 0);
-        check.due("base of router 3", x.tree(3, 0, NONE, 3), 2);
-        check.due("router 3 is not straight", x.tree(3, 0, 0, 5), 0);
-        check.due("router 3 tells, too", x.tree(3, 0, NONE, 4), 1);
-        x.tick(1);
-        check.due("cut off at the meeting point", x.branch(0, 0, 0, 0, 1), 1);
+        for (int t = 7; t < 20; t++) {
+            x.tick(1);
+            Nets.drop(x, 1, Nets.JOIN, 0);
+            check.due("told at " + t, x.tree(1, 0, NONE, 4), t < 10 ? 0 : 1);
+        }
+        check.due("lost", x.branch(1, 1, 0, 0, 2), 1);
+        check.due("not cut off there", x.branch(1, 1, 0, 0, 1), 0);
+        check.due("shared", x.tree(1, 0, 0, 4), 0);
+        check.due("router 2, which has not lost, tells nothing", x.tree(2, 0, NONE, 4), 0);
     }
 
     private static void nothingIsToldWithoutAJoin() {
@@ -690,6 +713,7 @@ public final class EdgesOfTrees {
         joinOfMoreBitsIsAnswered();
         joinOfFewerBitsIsNothing();
         pruneIsAnswered();
+        pruneForAnotherRouterIsNot();
     }
 
     /** Routers 0 and 1 both join source 2 at 6 and hear it of one another at 7. */
@@ -797,6 +821,26 @@ public final class EdgesOfTrees {
         check.due("none at 30", Nets.framesOf(x, 0, Nets.JOIN), 0);
         x.tick(1);
         check.due("the next one at 31", Nets.framesOf(x, 0, Nets.JOIN), 1);
+    }
+
+    /** Routers 0 (the meeting point), 1, 2 on wire 0; 1, 2, 3 on wire 1. Router 3 joins by router 1, router 2 by router 0. */
+    private static void pruneForAnotherRouterIsNot() {
+        check.says("that is TO the ROUTER by which r has JOINED for x, and came by that PORT");
+        GroveWorks x = Nets.hosts(Nets.net(4, new int[][] {
+            {0, 0, 0}, {1, 0, 0}, {2, 0, 0}, {1, 1, 1}, {2, 1, 1}, {3, 0, 1}, {2, 2, 2}, {3, 1, 3},
+        }), 2, 3);
+        x.tick(2);
+        x.join(0, 0);
+        x.join(1, 0);
+        x.tick(3);
+        check.due("router 2 has joined router 0", x.tree(2, 0, NONE, 1), 0);
+        check.due("router 3 has joined router 1", x.tree(3, 0, NONE, 1), 1);
+        x.leave(1, 0);
+        x.tick(5);
+        check.dueFrame("router 3 prunes", x, 1, 0, 6, 3, 1, 0, NONE, 0, 0, 0);
+        x.tick(1);
+        check.due("router 2 says nothing by wire 1", x.frame(1, 0, 0), -2);
+        check.due("nor by wire 0", x.frame(0, 0, 0), -2);
     }
 
     private static void questions() {
