@@ -67,13 +67,7 @@ public final class EdgesOfData {
 
     private static GroveWorks playedTriangle() {
         GroveWorks x = Nets.triangle();
-        x.tick(2);
-        x.join(1, 0);
-        x.tick(2);
-        x.send(0, 0);
-        x.tick(4);
-        x.send(0, 0);
-        x.tick(2);
+        Nets.playTriangle(x);
         return x;
     }
 
@@ -782,6 +776,7 @@ public final class EdgesOfData {
         probeOfTheFirst();
         probeWithoutSource();
         probeWhileKept();
+        probesByGroupsAndSources();
     }
 
     private static void stopForForty() {
@@ -910,6 +905,24 @@ public final class EdgesOfData {
             check.due("time", x.count(0), 77);
             check.due("stopped", x.tree(0, 0, 0, 7), 82);
             check.due("a probe at 77 only if it is kept", x.count(5), tunnels + late);
+        }
+    }
+
+    private static void probesByGroupsAndSources() {
+        check.says("TIMERS, last of all, by GROUPS, then SOURCES");
+        GroveWorks x = Nets.line(1);
+        x.meet(7, 1);
+        x.host(9, 2);
+        x.tick(2);
+        x.send(9, 7);
+        x.send(9, 0);
+        x.send(0, 7);
+        x.send(0, 0);
+        x.tick(38);
+        int[] groups = {0, 0, 7, 7};
+        int[] sources = {0, 9, 0, 9};
+        for (int i = 0; i < 4; i++) {
+            check.dueFrame("probe " + i, x, 0, i, 9, 0, 1, groups[i], sources[i], 0, 0, 16);
         }
     }
 }

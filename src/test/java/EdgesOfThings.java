@@ -812,6 +812,7 @@ public final class EdgesOfThings {
         noWayWithoutDistance();
         waysOfThisMoment();
         wayNeedsATarget();
+        sourceWithoutAWire();
     }
 
     private static void distanceToItself() {
@@ -958,6 +959,21 @@ public final class EdgesOfThings {
         }
         check.due("a wire's number is none of a router", x.way(0, true, 3, 0), 2);
         check.due("router 3 is none", x.way(0, false, 3, 0), NONE);
+    }
+
+    private static void sourceWithoutAWire() {
+        check.says("ways to it are those to its WIRE (none without one)");
+        GroveWorks x = Nets.net(2, new int[][] {{0, 0, 0}, {1, 0, 0}, {1, 1, 1}});
+        x.host(1, 1);
+        x.join(1, 0);
+        x.tick(3);
+        int[] due = {0, NONE, NONE, 2, 2, 0, 0, 0};
+        for (int what = 0; what < 8; what++) {
+            check.due("tree(1, 0, 9, " + what + ")", x.tree(1, 0, 9, what), due[what]);
+        }
+        x.tick(50);
+        check.due("nobody joins it", x.tree(1, 0, 9, 1), NONE);
+        check.due("it is not cut off", x.tree(1, 0, NONE, 4), 0);
     }
 
     private static void frames() {
@@ -1174,10 +1190,35 @@ public final class EdgesOfThings {
     }
 
     private static void ticks() {
+        wiresByNumbers();
         framesWaitForTheNextTick();
         routersByNumbers();
         hostsByNumbers();
         manyTicksAtOnce();
+    }
+
+    /** A report and data come in the same tick: the data goes to the members' wire only if that comes first. */
+    private static void wiresByNumbers() {
+        check.says("(1) WIRES by numbers; of each the FRAMES that were under way as the TICK began, in order");
+        for (int members : new int[] {1, 4, 6, 9}) {
+            GroveWorks x = Nets.hosts(Nets.net(1, new int[][] {{0, 0, members}, {0, 1, 5}}), 5, members);
+            x.tick(2);
+            x.join(1, 0);
+            x.send(0, 0);
+            x.tick(1);
+            check.due("members on wire " + members, x.members(0, 0, 0), 63);
+            check.due("data to wire " + members, Nets.framesOf(x, members, Nets.DATA), members < 5 ? 1 : 0);
+        }
+        check.says("each comes to all that hear it, and each does at once what is told");
+        for (int late = 0; late < 2; late++) {
+            GroveWorks x = Nets.hosts(Nets.net(1, new int[][] {{0, 0, 0}}), 0, 0);
+            x.tick(2);
+            x.send(0, 0);
+            x.join(1, 0);
+            Nets.send(x, 0, 0, late);
+            x.tick(1);
+            check.due("wanted by data behind the report alone", x.tree(0, 0, 0, 5), late);
+        }
     }
 
     private static void framesWaitForTheNextTick() {

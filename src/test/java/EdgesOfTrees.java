@@ -17,17 +17,6 @@ public final class EdgesOfTrees {
         check.end();
     }
 
-    /** Plays a triangle, with a third router on wire 0 or without, till router 2 tells that it cuts source 0 off: time 10. */
-    private static void playTriangle(GroveWorks x) {
-        x.tick(2);
-        x.join(1, 0);
-        x.tick(2);
-        x.send(0, 0);
-        x.tick(4);
-        x.send(0, 0);
-        x.tick(2);
-    }
-
     private static void joins() {
         joinForSeventy();
         joinIsForOneRouter();
@@ -71,7 +60,7 @@ public final class EdgesOfTrees {
     private static void joinIsForOneTree() {
         check.says("SOURCE s, or NONE for *");
         GroveWorks x = Nets.triangle();
-        playTriangle(x);
+        Nets.playTriangle(x);
         check.due("for the source at router 1", x.branch(1, 0, 0, 0, 0), 78);
         check.due("not for *", x.branch(1, 0, 0, NONE, 0), 0);
         check.due("not for another source", x.branch(1, 0, 0, 1, 0), 0);
@@ -133,7 +122,7 @@ public final class EdgesOfTrees {
     private static void cutOffAtOnce() {
         check.says("will be CUT OFF there from TIME on");
         GroveWorks x = Nets.triangle();
-        playTriangle(x);
+        Nets.playTriangle(x);
         check.due("told at 10", x.tree(2, 0, NONE, 4), 1);
         check.due("not heard yet", x.branch(0, 0, 0, 0, 1), 0);
         check.due("one neighbour", x.port(0, 0, 2), 4);
@@ -149,7 +138,7 @@ public final class EdgesOfTrees {
     private static void cutOffInThree() {
         check.says("or, if p has two NEIGHBOURS or more, from TIME and 3 on");
         GroveWorks x = Nets.triangleOfFour();
-        playTriangle(x);
+        Nets.playTriangle(x);
         check.due("two neighbours", x.port(0, 0, 2), 12);
         for (int t = 11; t < 14; t++) {
             x.tick(1);
@@ -164,7 +153,7 @@ public final class EdgesOfTrees {
     private static void cutOffToldAgain() {
         check.says("and was not told so by the JOINS there (of *) one behind the other up to now");
         GroveWorks x = Nets.triangleOfFour();
-        playTriangle(x);
+        Nets.playTriangle(x);
         x.tick(19);
         check.due("no join at 29", Nets.framesOf(x, 0, Nets.JOIN), 0);
         x.tick(1);
@@ -209,7 +198,7 @@ public final class EdgesOfTrees {
     private static void cutOffNoMore() {
         check.says("each s that is not in BITS is cut off there no more");
         GroveWorks x = Nets.triangle();
-        playTriangle(x);
+        Nets.playTriangle(x);
         x.tick(1);
         check.due("cut off", x.branch(0, 0, 0, 0, 1), 1);
         x.cut(1);
@@ -225,7 +214,7 @@ public final class EdgesOfTrees {
     private static void cutOffLapses() {
         check.says("A JOIN of * that lapsed: nothing is cut off there any more.");
         GroveWorks x = Nets.triangleOfFour();
-        playTriangle(x);
+        Nets.playTriangle(x);
         x.tick(20);
         for (int t = 30; t < 90; t += 20) {
             check.due("a join goes at " + t, Nets.drop(x, 0, Nets.JOIN, 2), 1);
@@ -325,7 +314,7 @@ public final class EdgesOfTrees {
     private static void pruneIsForOneTree() {
         check.says("JOINED for x: till TIME");
         GroveWorks x = Nets.triangle();
-        playTriangle(x);
+        Nets.playTriangle(x);
         x.tick(1);
         check.due("the meeting point prunes the source", Nets.framesOf(x, 2, Nets.PRUNE), 1);
         x.tick(1);
@@ -476,6 +465,7 @@ public final class EdgesOfTrees {
 
     private static void wantsAndUps() {
         theMeetingPointWantsNothing();
+        aLostPortWantsNothing();
         ownPortsAreThoseOfTheFirst();
         upIsANeighbour();
         upOfOneThatIsDirect();
@@ -499,6 +489,24 @@ public final class EdgesOfTrees {
         y.tick(1);
         check.due("router 2 wants it", y.tree(2, 0, NONE, 0), 1);
         check.due("router 1 does not yet", y.tree(1, 0, NONE, 0), 0);
+    }
+
+    /** Router 0's join for the source comes to router 1 at 10, as wire 1 is lost there. */
+    private static void aLostPortWantsNothing() {
+        check.says("r WANTS s: a PORT is JOINED for s and not LOST");
+        GroveWorks x = Nets.twoToOne(1);
+        x.send(0, 0);
+        x.tick(4);
+        check.due("joined for the source", x.branch(1, 1, 0, 0, 0), 80);
+        check.due("lost", x.branch(1, 1, 0, 0, 2), 1);
+        check.due("not wanted", x.tree(1, 0, 0, 0), 0);
+        check.due("all", x.tree(1, 0, 0, 3), 0);
+        check.due("joined none", x.tree(1, 0, 0, 1), NONE);
+        check.due("base", x.tree(1, 0, NONE, 3), 2);
+        GroveWorks y = Nets.triangle();
+        Nets.playTriangle(y);
+        check.due("joined and not lost: wanted", y.tree(1, 0, 0, 0), 1);
+        check.due("without shared ports", y.tree(1, 0, 0, 4), 0);
     }
 
     private static void ownPortsAreThoseOfTheFirst() {
@@ -542,7 +550,7 @@ public final class EdgesOfTrees {
     private static void upOfOneThatIsDirect() {
         check.says("A WAY without a ROUTER: none, whatever its PORT keeps.");
         GroveWorks x = Nets.triangle();
-        playTriangle(x);
+        Nets.playTriangle(x);
         check.due("router 1 wants the source", x.tree(1, 0, 0, 0), 1);
         check.due("but is direct: it joins nobody", x.tree(1, 0, 0, 1), NONE);
         check.due("by no port", x.tree(1, 0, 0, 2), NONE);
@@ -583,6 +591,7 @@ public final class EdgesOfTrees {
 
     private static void timers() {
         joinEveryTwenty();
+        joinsByGroupsAndSources();
         joinForNewCuts();
         cutsOfAnEmptyShared();
         cutsOfALostShared();
@@ -602,6 +611,38 @@ public final class EdgesOfTrees {
             check.due("join at " + time, Nets.framesOf(x, 1, Nets.JOIN), isDue[i] ? 1 : 0);
         }
         check.due("the last one was at 43", x.count(0), 43);
+    }
+
+    private static void joinsByGroupsAndSources() {
+        check.says("by GROUPS, in each * and then the SOURCES by numbers");
+        GroveWorks x = Nets.line(0);
+        x.host(9, 2);
+        x.tick(2);
+        x.join(1, 7);
+        x.join(1, 0);
+        x.tick(1);
+        check.due("* of group 0", x.frame(1, 0, 3), 0);
+        check.due("* of group 7", x.frame(1, 1, 3), 7);
+        x.tick(2);
+        x.send(9, 7);
+        x.send(9, 0);
+        x.send(0, 7);
+        x.send(0, 0);
+        x.tick(3);
+        int[] groups = {0, 0, 7, 7};
+        int[] sources = {0, 9, 0, 9};
+        int first = Nets.find(x, 1, Nets.JOIN);
+        for (int i = 0; i < 4; i++) {
+            check.dueFrame("join " + i, x, 1, first + i, 5, 2, 1, groups[i], sources[i], 0, 0, 0);
+        }
+        x.leave(1, 7);
+        x.leave(1, 0);
+        x.tick(5);
+        int[] pruned = {NONE, 0, 9, NONE, 0, 9};
+        first = Nets.find(x, 1, Nets.PRUNE);
+        for (int i = 0; i < 6; i++) {
+            check.dueFrame("prune " + i, x, 1, first + i, 6, 2, 1, i < 3 ? 0 : 7, pruned[i], 0, 0, 0);
+        }
     }
 
     /** Router 0 is direct to the source, so up of it is none, but there is up of *. */
@@ -691,7 +732,7 @@ public final class EdgesOfTrees {
         check.due("joined none at 10", x.tree(0, 0, NONE, 1), NONE);
         check.due("told nothing at 10", x.tree(0, 0, NONE, 4), 0);
         GroveWorks y = Nets.triangle();
-        playTriangle(y);
+        Nets.playTriangle(y);
         check.due("told at 10", y.tree(2, 0, NONE, 4), 1);
         y.cut(0);
         check.due("told nothing by a cut wire", y.tree(2, 0, NONE, 4), 0);
@@ -761,9 +802,8 @@ public final class EdgesOfTrees {
     private static void joinOfMoreBitsIsAnswered() {
         check.says("if its BITS have one that r's last one had not, r sends its own again, at once (as that was)");
         GroveWorks x = Nets.triangleOfFour();
-        x.tick(2);
         x.join(2, 0);
-        playTriangleBehind(x);
+        Nets.playTriangle(x);
         check.due("router 2 tells", x.tree(2, 0, NONE, 4), 1);
         check.due("router 3 tells nothing", x.tree(3, 0, NONE, 4), 0);
         x.tick(1);
@@ -774,19 +814,10 @@ public final class EdgesOfTrees {
         }
     }
 
-    private static void playTriangleBehind(GroveWorks x) {
-        x.join(1, 0);
-        x.tick(2);
-        x.send(0, 0);
-        x.tick(4);
-        x.send(0, 0);
-        x.tick(2);
-    }
-
     private static void joinOfFewerBitsIsNothing() {
         check.says("BITS of another's that are fewer than r's last: nothing.");
         GroveWorks x = Nets.triangleOfFour();
-        playTriangle(x);
+        Nets.playTriangle(x);
         x.tick(4);
         check.due("cut off at 14", x.branch(0, 0, 0, 0, 1), 1);
         x.join(2, 0);

@@ -1,30 +1,22 @@
-import com.sun.source.tree.AssertTree;
 import com.sun.source.tree.AssignmentTree;
 import com.sun.source.tree.BinaryTree;
 import com.sun.source.tree.BlockTree;
 import com.sun.source.tree.ClassTree;
 import com.sun.source.tree.CompilationUnitTree;
 import com.sun.source.tree.CompoundAssignmentTree;
-import com.sun.source.tree.DoWhileLoopTree;
 import com.sun.source.tree.EnhancedForLoopTree;
 import com.sun.source.tree.ExpressionTree;
 import com.sun.source.tree.ForLoopTree;
 import com.sun.source.tree.IdentifierTree;
-import com.sun.source.tree.LambdaExpressionTree;
 import com.sun.source.tree.LiteralTree;
-import com.sun.source.tree.MemberReferenceTree;
 import com.sun.source.tree.MethodInvocationTree;
 import com.sun.source.tree.MethodTree;
 import com.sun.source.tree.NewArrayTree;
 import com.sun.source.tree.NewClassTree;
-import com.sun.source.tree.SynchronizedTree;
-import com.sun.source.tree.ThrowTree;
 import com.sun.source.tree.Tree;
-import com.sun.source.tree.TryTree;
 import com.sun.source.tree.TypeCastTree;
 import com.sun.source.tree.UnaryTree;
 import com.sun.source.tree.VariableTree;
-import com.sun.source.tree.WhileLoopTree;
 import com.sun.source.util.JavacTask;
 import com.sun.source.util.TreePath;
 import com.sun.source.util.TreePathScanner;
@@ -77,6 +69,9 @@ public final class Language {
             "java.lang.System", Set.of("arraycopy"),
             "java.util.Arrays", Set.of("copyOf", "copyOfRange", "fill"));
     private static final Set<String> FUNCTIONS = Set.of("java.lang.Math", "java.lang.Integer", "java.lang.Long");
+    private static final Map<Tree.Kind, String> FORBIDDEN = Map.of(
+            Tree.Kind.LAMBDA_EXPRESSION, "2", Tree.Kind.MEMBER_REFERENCE, "2", Tree.Kind.THROW, "6", Tree.Kind.TRY, "6",
+            Tree.Kind.SYNCHRONIZED, "6", Tree.Kind.ASSERT, "6", Tree.Kind.WHILE_LOOP, "9", Tree.Kind.DO_WHILE_LOOP, "9");
     private static final Set<String> MAKERS = Set.of("plug", "host", "makeRouter", "makeFrames");
     private static final int MOST_OBJECTS = 600_000;
     private static final int MOST_ELEMENTS = 7_300_000;
@@ -211,6 +206,14 @@ public final class Language {
                 String name = element.toString();
                 faultAt(!isOwn(element) && !LIBRARY_TYPES.contains(name), "3", "the type " + name, tree);
             }
+        }
+
+        @Override
+        public Void scan(Tree tree, Void nothing) {
+            if (tree != null && FORBIDDEN.containsKey(tree.getKind())) {
+                faultAt(true, FORBIDDEN.get(tree.getKind()), tree.getKind().toString(), tree);
+            }
+            return super.scan(tree, nothing);
         }
 
         @Override
@@ -447,57 +450,9 @@ public final class Language {
         }
 
         @Override
-        public Void visitWhileLoop(WhileLoopTree tree, Void nothing) {
-            faultAt(true, "9", "while", tree);
-            return super.visitWhileLoop(tree, nothing);
-        }
-
-        @Override
-        public Void visitDoWhileLoop(DoWhileLoopTree tree, Void nothing) {
-            faultAt(true, "9", "do", tree);
-            return super.visitDoWhileLoop(tree, nothing);
-        }
-
-        @Override
         public Void visitEnhancedForLoop(EnhancedForLoopTree tree, Void nothing) {
             faultAt(typeOf(tree.getExpression()).getKind() != TypeKind.ARRAY, "12", "for over a list", tree);
             return super.visitEnhancedForLoop(tree, nothing);
-        }
-
-        @Override
-        public Void visitLambdaExpression(LambdaExpressionTree tree, Void nothing) {
-            faultAt(true, "2", "a lambda", tree);
-            return super.visitLambdaExpression(tree, nothing);
-        }
-
-        @Override
-        public Void visitMemberReference(MemberReferenceTree tree, Void nothing) {
-            faultAt(true, "2", "a method reference", tree);
-            return super.visitMemberReference(tree, nothing);
-        }
-
-        @Override
-        public Void visitThrow(ThrowTree tree, Void nothing) {
-            faultAt(true, "6", "throw", tree);
-            return super.visitThrow(tree, nothing);
-        }
-
-        @Override
-        public Void visitTry(TryTree tree, Void nothing) {
-            faultAt(true, "6", "try", tree);
-            return super.visitTry(tree, nothing);
-        }
-
-        @Override
-        public Void visitSynchronized(SynchronizedTree tree, Void nothing) {
-            faultAt(true, "6", "synchronized", tree);
-            return super.visitSynchronized(tree, nothing);
-        }
-
-        @Override
-        public Void visitAssert(AssertTree tree, Void nothing) {
-            faultAt(true, "6", "assert", tree);
-            return super.visitAssert(tree, nothing);
         }
     }
 

@@ -27,7 +27,8 @@ public final class ModelRuns {
                 if (args.length > 0) {
                     System.out.println(Plain.HAPPENINGS[i] + ": " + seen[i]);
                 }
-                if (seen[i] == 0) {
+                // Other runs than those of .ci/run may well miss the rarest ones.
+                if (seen[i] == 0 && args.length == 0) {
                     System.out.println("no run has seen this: " + Plain.HAPPENINGS[i]);
                     wrong++;
                 }

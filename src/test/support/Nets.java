@@ -78,6 +78,17 @@ final class Nets {
         return x;
     }
 
+    /** Plays a triangle, with a third router on wire 0 or without, till router 2 tells that it cuts source 0 off: time 10. */
+    static void playTriangle(GroveWorks x) {
+        x.tick(2);
+        x.join(1, 0);
+        x.tick(2);
+        x.send(0, 0);
+        x.tick(4);
+        x.send(0, 0);
+        x.tick(2);
+    }
+
     static int framesOn(GroveWorks x, int wire) {
         int n = 0;
         while (x.frame(wire, n, 0) != -2) {
